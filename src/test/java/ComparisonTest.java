@@ -26,7 +26,6 @@ public final class ComparisonTest {
     private final PlainChess plain = new PlainChess();
     private final Due due;
     private final int run;
-    private int shuffle = 0;
 
     private ComparisonTest(Due due, int run) {
         this.due = due;
@@ -48,7 +47,7 @@ public final class ComparisonTest {
             load(random.nextInt(3) == 0 ? randomText() : TEXTS[random.nextInt(TEXTS.length)]);
             calls = 15;
         }
-        // A few runs shuffle men to and fro, so that positions come again.
+        // Some runs move men to and fro, so that positions come again.
         boolean shuffles = random.nextInt(4) == 0;
         for (; calls < CALLS; calls++) {
             if (random.nextInt(3) > 0) {
@@ -66,46 +65,9 @@ public final class ComparisonTest {
             same("back()", () -> quick.back(), () -> plain.back());
             return;
         }
-        int move = plain.move(random.nextInt(count));
-        if (shuffles && shuffle < 400) {
-            int undone = undoing(count);
-            move = undone >= 0 ? undone : move;
-        }
-        int told = move;
-        shuffle++;
-        same("play(" + told + ")", () -> quick.play(told), () -> plain.play(told));
-    }
-
-    /** The move that takes back what the same side played last, if it is legal; else NONE. */
-    private int undoing(int count) {
-        for (int k = 0; k < count; k++) {
-            int move = plain.move(k);
-            int i = shuffle;
-            for (; i >= 0 && Due.answerOf(() -> quick.played(0)).startsWith("throws"); i--) {
-                return -1;
-            }
-            int last = lastPlayed();
-            int before = last - 1;
-            if (before >= 0) {
-                int own = quick.played(before);
-                if ((own & 63) == (move >> 6 & 63) && (own >> 6 & 63) == (move & 63)) {
-                    return move;
-                }
-            }
-        }
-        return -1;
-    }
-
-    private int lastPlayed() {
-        int low = 0;
-        while (low < 400) {
-            int i = low;
-            if (Due.answerOf(() -> quick.played(i)).startsWith("throws")) {
-                break;
-            }
-            low++;
-        }
-        return low - 1;
+        int undoing = shuffles ? plain.undoing() : ChessRules.NONE;
+        int move = undoing != ChessRules.NONE ? undoing : plain.move(random.nextInt(count));
+        same("play(" + move + ")", () -> quick.play(move), () -> plain.play(move));
     }
 
     private void askOne() {

@@ -188,6 +188,16 @@ final class PlainChess {
         return waysFrom(now(), depth);
     }
 
+    /** The legal move that undoes the latest one of the side to move; NONE if there is none. */
+    int undoing() {
+        if (played.size() < 2) {
+            return ChessRules.NONE;
+        }
+        int latest = played.get(played.size() - 2);
+        int undone = (latest >> 6 & 63) + 64 * (latest & 63);
+        return legal(now()).contains(undone) ? undone : ChessRules.NONE;
+    }
+
     private static long waysFrom(State s, int depth) {
         if (depth == 0) {
             return 1;
