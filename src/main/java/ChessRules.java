@@ -518,7 +518,7 @@ public final class ChessRules {
          * without a trial, which makes it cheap to count many.
          */
         private long exposed() {
-            if (isInCheck()) {
+            if (board.isInCheck(side)) {
                 return board.allOf(side);
             }
             return board.setOf(KING, side) | board.shieldsOf(side) | pawnsThatAttackPassed();
@@ -572,33 +572,41 @@ public final class ChessRules {
 
         private int countMoves() {
             long exposed = exposed();
+            long left = board.allOf(side);
             int count = 0;
-            for (int from = 0; from < SQUARES; from++) {
+            for (int n = 0; n < SQUARES && left != 0; n++) {
+                int from = lowestSquare(left);
                 count += Long.bitCount(legalTargets(from, exposed)) * movesToOneTarget(from);
+                left &= left - 1;
             }
             return count;
         }
 
         private boolean hasMove() {
             long exposed = exposed();
-            for (int from = 0; from < SQUARES; from++) {
-                if (legalTargets(from, exposed) != 0) {
+            long left = board.allOf(side);
+            for (int n = 0; n < SQUARES && left != 0; n++) {
+                if (legalTargets(lowestSquare(left), exposed) != 0) {
                     return true;
                 }
+                left &= left - 1;
             }
             return false;
         }
 
         private int moveInOrder(int k) {
             long exposed = exposed();
+            long left = board.allOf(side);
             int before = 0;
-            for (int from = 0; from < SQUARES; from++) {
+            for (int n = 0; n < SQUARES && left != 0; n++) {
+                int from = lowestSquare(left);
                 long targets = legalTargets(from, exposed);
                 int here = Long.bitCount(targets) * movesToOneTarget(from);
                 if (k < before + here) {
                     return moveOfMan(from, targets, k - before);
                 }
                 before += here;
+                left &= left - 1;
             }
             return NONE;
         }
@@ -701,9 +709,12 @@ public final class ChessRules {
                 return position.countMoves();
             }
             long exposed = position.exposed();
+            long left = position.board.allOf(position.side);
             long total = 0;
-            for (int from = 0; from < SQUARES; from++) {
+            for (int n = 0; n < SQUARES && left != 0; n++) {
+                int from = lowestSquare(left);
                 total += countFrom(position, from, position.legalTargets(from, exposed), depth);
+                left &= left - 1;
             }
             return total;
         }
