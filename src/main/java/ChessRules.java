@@ -33,21 +33,21 @@ public final class ChessRules {
     private static final int FIFTH_TIME = 4;
     private static final int CLOCK_RAN_OUT = 5;
 
-    private final Line text = new Line();
+    private final Reader reader = new Reader();
     private final Line written = new Line();
-    private final Reader reader = new Reader(text);
     private final Game game = new Game();
 
     public ChessRules() {
         for (int i = 0; i < FIRST_POSITION.length(); i++) {
-            text.add(FIRST_POSITION.charAt(i));
+            reader.text.add(FIRST_POSITION.charAt(i));
         }
         reader.findFault();
         game.begin(reader.position);
-        text.shorten(0);
+        reader.text.shorten(0);
     }
 
     public boolean type(long w, int n) {
+        Line text = reader.text;
         if (n < 1 || n > 8 || n > LINE_LIMIT - text.length) {
             return false;
         }
@@ -64,10 +64,10 @@ public final class ChessRules {
     }
 
     public boolean cut(int n) {
-        if (n < 0 || n > text.length) {
+        if (n < 0 || n > reader.text.length) {
             return false;
         }
-        text.shorten(n);
+        reader.text.shorten(n);
         return true;
     }
 
@@ -75,7 +75,7 @@ public final class ChessRules {
         int fault = reader.findFault();
         if (fault == 0) {
             game.begin(reader.position);
-            text.shorten(0);
+            reader.text.shorten(0);
         }
         return fault;
     }
@@ -819,14 +819,10 @@ public final class ChessRules {
         private static final int NOTHING_PASSED = 6;
         private static final long OUTER_RANKS = 0xFF000000000000FFL;
 
-        private final Line line;
+        private final Line text = new Line();
         /** Not the game's own position, which must stay as it is if there is a fault. */
         private final Position position = new Position();
         private int at = 0;
-
-        private Reader(Line line) {
-            this.line = line;
-        }
 
         private int findFault() {
             at = 0;
@@ -882,15 +878,15 @@ public final class ChessRules {
                     && readOne(' ') && readPassed()
                     && readOne(' ') && readClock()
                     && readOne(' ') && readMoveNumber()
-                    && at == line.length;
+                    && at == text.length;
         }
 
         private int next() {
-            return line.at(at);
+            return text.at(at);
         }
 
         private boolean readOne(int c) {
-            if (line.at(at) != c) {
+            if (text.at(at) != c) {
                 return false;
             }
             at++;
@@ -953,7 +949,7 @@ public final class ChessRules {
                 return true;
             }
             int file = next() - 'a';
-            int rank = line.at(at + 1) - '1';
+            int rank = text.at(at + 1) - '1';
             if (file < 0 || file > 7 || rank < 0 || rank > 7) {
                 return false;
             }

@@ -6,6 +6,7 @@ public final class EndTest {
 
     public static void main(String[] args) {
         promise15();
+        promise15Men();
         promise15Rights();
         promise15Passed();
         promise16MateAndStalemate();
@@ -42,6 +43,24 @@ public final class EndTest {
         ChessRules side = Due.from("4k3/8/8/8/8/8/8/R3K3 w - - 0 1");
         Due.play(side, "a1b1 e8e7 b1c1 e7e8 c1a1");
         DUE.same("the other side is to move", 1, side.occurrence());
+    }
+
+    private static void otherMen(String told, String text, String moves) {
+        ChessRules x = Due.from(text);
+        Due.play(x, moves);
+        DUE.same(told, 1, x.occurrence());
+    }
+
+    private static void promise15Men() {
+        otherMen("rook and queen changed places", "4k3/8/8/8/8/8/8/RQ2K3 w - - 0 1",
+                "a1a2 e8e7 b1a1 e7e8 a2b2 e8e7 b2b1 e7e8");
+        otherMen("knight and rook changed places", "4k3/8/8/8/8/8/8/RN2K3 w - - 0 1",
+                "b1c3 e8e7 a1b1 e7e8 c3b5 e8e7 b5c3 e7e8 c3a2 e8e7 a2c1 e7e8 c1b3 e8e7 b3a1 e7e8");
+        otherMen("white and black rook changed places", "4k3/8/8/8/R6r/8/8/4K3 w - - 0 1",
+                "a4a5 h4h3 a5h5 h3a3 h5h4 a3a4");
+        otherMen("a pawn is gone", "4k3/8/8/8/8/8/p7/R3K3 w - - 0 1", "a1a2 e8e7 a2a1 e7e8");
+        otherMen("a white pawn is gone", "r3k3/P7/8/8/8/8/8/4K3 b - - 0 1", "a8a7 e1e2 a7a8 e2e1");
+        otherMen("a knight is gone", "4k3/8/8/8/8/8/n7/R3K3 w - - 0 1", "a1a2 e8e7 a2a1 e7e8");
     }
 
     private static void promise15Rights() {
@@ -107,6 +126,7 @@ public final class EndTest {
         result(3, "4k3/8/8/8/8/8/8/4KB2 b - - 0 1");
         result(3, "2b1k3/8/8/8/8/8/8/4KB2 b - - 0 1");
         result(3, "2b1k3/3b4/2b5/8/8/8/8/4KB1B w - - 0 1");
+        result(3, "4kb2/8/8/8/8/8/8/B1B1K3 b - - 0 1");
         result(0, "4kb2/8/8/8/8/8/8/4KB2 b - - 0 1");
         result(0, "4k3/8/8/8/8/8/8/2B1KB2 b - - 0 1");
         result(0, "4k3/8/8/8/8/8/8/4KNN1 w - - 0 1");

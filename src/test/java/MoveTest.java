@@ -242,6 +242,10 @@ public final class MoveTest {
         ChessRules x = Due.from(WALL);
         Random random = new Random(5);
         for (int i = 0; i < 400; i++) {
+            if (!endsByClock && i == 396) {
+                toAndFro(x);
+                break;
+            }
             boolean pawn = i == 124 || i == 249 || (!endsByClock && i == 330);
             int result = endsByClock && i == 399 ? 5 : 0;
             DUE.same("a long game", i + 1, x.play(quietMove(x, random, pawn, result)));
@@ -249,8 +253,17 @@ public final class MoveTest {
         return x;
     }
 
+    private static void toAndFro(ChessRules x) {
+        Random random = new Random(6);
+        int white = x.played(x.play(quietMove(x, random, false, 0)) - 1);
+        int black = x.played(x.play(quietMove(x, random, false, 0)) - 1);
+        x.play((white >> 6) + 64 * (white & 63));
+        DUE.same("a long game's end", 400, x.play((black >> 6) + 64 * (black & 63)));
+    }
+
     private static void promise12Limit() {
         ChessRules x = longGame(false);
+        DUE.same("the last position stood before", true, x.occurrence() >= 2);
         int legal = x.move(0);
         DUE.same("400 moves: it goes on", 0, x.result());
         refused(x, legal, UnsupportedOperationException.class);
