@@ -4,12 +4,26 @@ import java.util.function.LongSupplier;
 final class Due {
     private int wrong = 0;
     private int asked = 0;
+    private String under = "";
+
+    /** What stands before each complaint from now on. */
+    void under(String words) {
+        under = words;
+    }
+
+    int asked() {
+        return asked;
+    }
+
+    void wrong(String complaint) {
+        wrong++;
+        System.out.println(under + complaint);
+    }
 
     void same(String what, long want, long got) {
         asked++;
         if (got != want) {
-            wrong++;
-            System.out.println(what + " answered " + got + ", due is " + want);
+            wrong(what + " answered " + got + ", due is " + want);
         }
     }
 
@@ -20,13 +34,44 @@ final class Due {
     void same(String what, String want, String got) {
         asked++;
         if (!got.equals(want)) {
-            wrong++;
-            System.out.println(what + " answered " + got + ", due is " + want);
+            wrong(what + " answered " + got + ", due is " + want);
         }
     }
 
     void thrown(String what, Class<? extends RuntimeException> want, LongSupplier call) {
         same(what, "throws." + want.getSimpleName(), answerOf(call));
+    }
+
+    void outOfBounds(String what, LongSupplier call) {
+        thrown(what, IndexOutOfBoundsException.class, call);
+    }
+
+    void illegal(String what, LongSupplier call) {
+        thrown(what, IllegalArgumentException.class, call);
+    }
+
+    void wrongState(String what, LongSupplier call) {
+        thrown(what, IllegalStateException.class, call);
+    }
+
+    void unsupported(String what, LongSupplier call) {
+        thrown(what, UnsupportedOperationException.class, call);
+    }
+
+    /** The text that was typed has so many characters: it is asked without changing it. */
+    void textHas(int length, ChessRules rules) {
+        same("cut(" + (length + 1) + ") of a text of " + length, false, rules.cut(length + 1));
+        same("cut(" + length + ") of a text of " + length, true, rules.cut(length));
+    }
+
+    /** The text that was typed tells this position, which is loaded then. */
+    void textTells(String position, ChessRules rules) {
+        same("load() of " + position, 0, rules.load());
+        same("the position behind load()", position, written(rules));
+    }
+
+    void fault(int want, String text) {
+        same("load() of [" + text + "]", want, load(new ChessRules(), text));
     }
 
     void end() {
@@ -119,7 +164,32 @@ final class Due {
         return names.toString();
     }
 
-    private static String name64(int square) {
+    /** All that can be asked of a short game without changing anything, neither OUT nor the text. */
+    static String picture(ChessRules rules) {
+        StringBuilder told = new StringBuilder();
+        for (int what = 0; what < 6; what++) {
+            told.append(rules.about(what)).append(' ');
+        }
+        for (int square = 0; square < 64; square++) {
+            told.append(rules.man(square)).append(' ');
+        }
+        told.append(rules.moves()).append(' ').append(rules.occurrence()).append(' ');
+        told.append(rules.result()).append(' ').append(rules.claims()).append(' ');
+        int c = rules.out(0);
+        for (int i = 1; c != 0; i++) {
+            told.append((char) c);
+            c = rules.out(i);
+        }
+        String move = "";
+        for (int i = 0; !move.startsWith("throws"); i++) {
+            int n = i;
+            move = answerOf(() -> rules.played(n));
+            told.append(' ').append(move);
+        }
+        return told.toString();
+    }
+
+    static String name64(int square) {
         return "" + (char) ('a' + (square & 7)) + (char) ('1' + (square >> 3));
     }
 }
