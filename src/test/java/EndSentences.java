@@ -85,6 +85,11 @@ final class EndSentences {
     private static void sameSide(Due due) {
         occurrence(due, 1, "4k3/8/8/8/8/8/8/R3K3 w - - 0 1", "a1b1 e8e7 b1c1 e7e8 c1a1");
         occurrence(due, 2, "4k3/8/8/8/8/8/8/R3K3 w - - 0 1", "a1b1 e8e7 b1c1 e7e8 c1a1 e8e7 a1b1 e7e8 b1a1");
+        // The other side is to move, and a right is lost besides.
+        for (String right : new String[] {"K", "Q", "KQ"}) {
+            occurrence(due, 1, "4k3/8/8/8/8/8/8/R3K2R w " + right + " - 0 1", "e1e2 e8e7 e2d1 e7e8 d1e1");
+            occurrence(due, 1, "4k3/8/8/8/8/8/8/R3K2R w " + right + " - 0 1", "h1g1 e8e7 g1f1 e7e8 f1h1");
+        }
     }
 
     private static void sameRights(Due due) {

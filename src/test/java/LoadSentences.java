@@ -56,6 +56,32 @@ final class LoadSentences {
         String told = "r3k3/8/8/8/3pP3/8/8/4K2R b Kq e3 12 34";
         due.same("load() of another position", 0, Due.load(x, told));
         due.same("the position that the text tells", told, Due.written(x));
+        nothingIsLeft(due);
+    }
+
+    /** One text behind another, with a fault or without: what the second one tells has nothing of the first. */
+    private static void nothingIsLeft(Due due) {
+        String[] good = {Texts.FIRST, Texts.KINGS, Texts.CASTLES, Texts.MATED, "4k3/8/8/3pP3/8/8/8/4K3 w - d6 0 1",
+            "4k3/8/8/3pP3/8/8/8/4K3 w - - 99 7", "r3k3/8/8/8/3pP3/8/8/4K2R b Kq e3 12 34", "r3k3/8/8/8/3pP3/8/8/4K2R b - - 999 999"};
+        String[] faulty = {"", "rnbqkbnr", "4k3/8/8/3pP3/8/8/8/4K3 w - d6", "4k3/8/8/3pP3/8/8/8/4K3 w - d6 7",
+            "r3k2r/8/8/8/8/8/8/R3K2R b KQkq", "8/8/8/8/8/8/8/8 b - - 5 5", "4k3/8/8/3pP3/8/8/8/4K3 w K d6 7 9",
+            "4k3/8/8/3pP3/8/8/8/4K3 w - e6 7 9"};
+        int[] faults = {1, 1, 1, 1, 1, 2, 5, 6};
+        for (String second : good) {
+            for (String first : good) {
+                askBehind(due, 0, first, second);
+            }
+            for (int i = 0; i < faulty.length; i++) {
+                askBehind(due, faults[i], faulty[i], second);
+            }
+        }
+    }
+
+    private static void askBehind(Due due, int fault, String first, String second) {
+        ChessRules x = new ChessRules();
+        due.same("load() of [" + first + "]", fault, Due.load(x, first));
+        due.same("load() of " + second + " behind it", 0, Due.load(x, second));
+        due.same("as if nothing had been loaded before", Due.picture(Due.from(second)), Due.picture(x));
     }
 
     private static void textIsEmptyThen(Due due) {
@@ -325,7 +351,8 @@ final class LoadSentences {
 
     private static void eightSquares(Due due) {
         for (int place = 0; place < 8; place++) {
-            for (String rank : new String[] {"7", "N6", "6N", "NNNNNNN", "N8", "8N", "NNNNNNNNN", "7NN", "NN7", "1N7", "7N1", "8N8", "", "1"}) {
+            for (String rank : new String[] {"7", "N6", "6N", "NNNNNNN", "N8", "8N", "NNNNNNNNN", "7NN", "NN7", "1N7", "7N1", "8N8",
+                "", "1"}) {
                 String[] told = {"8", "8", "8", "8", "8", "8", "8", "8"};
                 told[(place + 3) % 8] = "k7";
                 told[(place + 6) % 8] = "K7";
@@ -364,8 +391,8 @@ final class LoadSentences {
 
     /** The mover's king is out of the way; the other one on e8 is attacked by each kind of man in turn. */
     private static void otherSideInCheck(Due due) {
-        for (String attacker : new String[] {"Pd7", "Pf7", "Nd6", "Nf6", "Nc7", "Ng7", "Bb5", "Bh5", "Bd7", "Ra8", "Re2", "Rf8", "Qe1", "Qh8",
-            "Qa4", "Qd7"}) {
+        for (String attacker : new String[] {"Pd7", "Pf7", "Nd6", "Nf6", "Nc7", "Ng7", "Bb5", "Bh5", "Bd7", "Ra8", "Re2", "Rf8",
+            "Qe1", "Qh8", "Qa4", "Qd7"}) {
             askCheck(due, 4, Texts.of("Ka1 ke8 " + attacker, "w - - 0 1"));
             askCheck(due, 0, Texts.of("Ka1 ke8 " + attacker, "b - - 0 1"));
         }

@@ -57,13 +57,17 @@ final class MoveSentences {
             String file = "" + (char) ('a' + (square & 7));
             int rank = square >> 3;
             String up = file + rank(rank + 1);
-            String ofWhite = rank == 6 ? up + "n " + up + "b " + up + "r " + up + "q" : rank == 1 ? up + " " + file + rank(3) : up;
+            String ofWhite = rank == 6 ? becoming(up) : rank == 1 ? up + " " + file + rank(3) : up;
             String down = file + rank(rank - 1);
-            String ofBlack = rank == 1 ? down + "n " + down + "b " + down + "r " + down + "q" : rank == 6 ? file + rank(4) + " " + down : down;
+            String ofBlack = rank == 1 ? becoming(down) : rank == 6 ? file + rank(4) + " " + down : down;
             String name = Due.name64(square);
             lonePawn(due, Texts.withKings("P" + name, "w - - 0 1"), name, ofWhite);
             lonePawn(due, Texts.withKings("p" + name, "b - - 0 1"), name, ofBlack);
         }
+    }
+
+    private static String becoming(String to) {
+        return to + "n " + to + "b " + to + "r " + to + "q";
     }
 
     private static void lonePawn(Due due, String text, String from, String want) {
@@ -226,11 +230,10 @@ final class MoveSentences {
 
     private static void lastRank(Due due) {
         for (char file = 'a'; file <= 'h'; file++) {
-            String to = file + "8";
-            Turned.goes(due, Texts.withKings("P" + file + "7", "w - - 0 1"), file + "7", to + "n " + to + "b " + to + "r " + to + "q");
+            Turned.goes(due, Texts.withKings("P" + file + "7", "w - - 0 1"), file + "7", becoming(file + "8"));
         }
         String text = Texts.of("Ka1 kh6 Pd7 re8 nc8 bd8", "w - - 7 3");
-        Turned.goes(due, text, "d7", "c8n c8b c8r c8q e8n e8b e8r e8q");
+        Turned.goes(due, text, "d7", becoming("c8") + " " + becoming("e8"));
         for (String letter : new String[] {"N", "B", "R", "Q"}) {
             String becomes = letter.toLowerCase();
             Turned.behind(due, text, "d7c8" + becomes, Texts.of("Ka1 kh6 " + letter + "c8 re8 bd8", "b - - 0 3"));
@@ -354,7 +357,8 @@ final class MoveSentences {
                 last = place;
             }
         }
-        due.same("by from, then to, then m", "e1d1 e1f1 e1d2 e1e2 e1f2 b7a8n b7a8b b7a8r b7a8q b7b8n b7b8b b7b8r b7b8q b7c8n b7c8b b7c8r b7c8q",
+        due.same("by from, then to, then m",
+                "e1d1 e1f1 e1d2 e1e2 e1f2 b7a8n b7a8b b7a8r b7a8q b7b8n b7b8b b7b8r b7b8q b7c8n b7c8b b7c8r b7c8q",
                 Due.moves(Due.from("n1n4k/1P6/8/8/8/8/8/4K3 w - - 0 1")));
         due.same("castling in its place", "e1c1 e1d1 e1f1 e1g1 e1d2 e1e2 e1f2",
                 Due.moves(Due.from("4k3/8/8/8/8/8/8/R3K2R w KQ - 0 1")).replaceAll("[ah]1[a-h][1-8] ?", "").trim());

@@ -4,7 +4,6 @@ import java.util.Random;
 
 /** Promises 10 to 14: moves, move, play, back, played. */
 public final class MoveTest {
-    private static final String WALL = "4k3/7p/8/p1p1p1p1/P1P1P1P1/8/7P/4K3 w - - 0 1";
     private static final Due DUE = new Due();
 
     public static void main(String[] args) {
@@ -218,68 +217,19 @@ public final class MoveTest {
         DUE.same("on from there", 16, fifth.play(Due.move("f6g4")));
     }
 
-    /** A move that takes nothing, a pawn's or not, behind which the game stands as it is due. */
-    private static int quietMove(ChessRules x, Random random, boolean pawns, int dueResult) {
-        int count = x.moves();
-        int first = random.nextInt(count);
-        for (int i = 0; i < count; i++) {
-            int move = x.move((first + i) % count);
-            boolean isPawn = x.man(move & 63) % 8 == 1;
-            if (isPawn == pawns && x.man(move >> 6 & 63) == 0) {
-                x.play(move);
-                if (x.result() == dueResult) {
-                    x.back();
-                    return move;
-                }
-                x.back();
-            }
-        }
-        throw new AssertionError("no such move of " + Due.written(x));
-    }
-
-    /** Kings walk behind a wall that nobody can pass; a pawn's move now and then sets the clock to 0. */
-    private static ChessRules longGame(boolean endsByClock) {
-        ChessRules x = Due.from(WALL);
-        Random random = new Random(5);
-        for (int i = 0; i < 400; i++) {
-            if (!endsByClock && i == 396) {
-                toAndFro(x);
-                break;
-            }
-            boolean pawn = i == 124 || i == 249 || (!endsByClock && i == 330);
-            int result = endsByClock && i == 399 ? 5 : 0;
-            DUE.same("a long game", i + 1, x.play(quietMove(x, random, pawn, result)));
-        }
-        return x;
-    }
-
-    private static void toAndFro(ChessRules x) {
-        Random random = new Random(6);
-        int white = x.played(x.play(quietMove(x, random, false, 0)) - 1);
-        int black = x.played(x.play(quietMove(x, random, false, 0)) - 1);
-        x.play((white >> 6) + 64 * (white & 63));
-        DUE.same("a long game's end", 400, x.play((black >> 6) + 64 * (black & 63)));
-    }
-
     private static void promise12Limit() {
-        ChessRules x = longGame(false);
-        DUE.same("the last position stood before", true, x.occurrence() >= 2);
+        ChessRules x = Games.full();
         int legal = x.move(0);
         DUE.same("400 moves: it goes on", 0, x.result());
-        refused(x, legal, UnsupportedOperationException.class);
-        refused(x, -1, IllegalArgumentException.class);
-        DUE.same("a move is kept for each of them", true, x.played(399) > 0);
+        DUE.thrown("play of one more", UnsupportedOperationException.class, () -> x.play(legal));
+        DUE.thrown("play of what is not legal", IllegalArgumentException.class, () -> x.play(-1));
         DUE.thrown("played(400)", IndexOutOfBoundsException.class, () -> x.played(400));
         DUE.same("back from 400", 399, x.back());
         DUE.same("and to 400 again", 400, x.play(x.move(0)));
-        ChessRules over = longGame(true);
+        ChessRules over = Games.fullAndClockRanOut();
+        int legalToo = over.move(0);
         DUE.same("400 moves: the clock ended it", 5, over.result());
-        refused(over, over.move(0), IllegalStateException.class);
-        refused(over, -1, IllegalArgumentException.class);
-        for (int i = 399; i >= 0; i--) {
-            DUE.same("all the way back", i, over.back());
-        }
-        DUE.same("at the beginning", WALL, Due.written(over));
+        DUE.thrown("play when it is over", IllegalStateException.class, () -> over.play(legalToo));
     }
 
     private static void promise13() {

@@ -141,7 +141,7 @@ public final class PositionTest {
         DUE.same("check by a knight", 1, Due.from("4k3/8/3N4/8/8/8/8/4K3 b - - 0 1").about(5));
         DUE.same("check by a pawn", 1, Due.from("4k3/3P4/8/8/8/8/8/4K3 b - - 0 1").about(5));
         DUE.same("a pawn in front", 0, Due.from("4k3/4P3/8/8/8/8/8/4K3 b - - 0 1").about(5));
-// The rook must not leave its king's file and gives check all the same.
+        // The rook must not leave its king's file and gives check all the same.
         DUE.same("check by a held man", 1, Due.from("4k3/4r1K1/8/8/8/8/8/4R3 w - - 0 1").about(5));
     }
 

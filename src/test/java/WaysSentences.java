@@ -65,7 +65,8 @@ final class WaysSentences {
     }
 
     private static void oneForNone(Due due) {
-        for (String text : new String[] {Texts.FIRST, Texts.KINGS, Texts.MATED, Texts.STALEMATE, Texts.CASTLES, "4k3/8/8/8/8/8/8/R3K3 w - - 999 1"}) {
+        for (String text : new String[] {Texts.FIRST, Texts.KINGS, Texts.MATED, Texts.STALEMATE, Texts.CASTLES,
+            "4k3/8/8/8/8/8/8/R3K3 w - - 999 1"}) {
             due.same("ways(0) of " + text, 1, Due.from(text).ways(0));
         }
         due.same("ways(0) behind 400 moves", 1, Games.full().ways(0));
