@@ -76,10 +76,49 @@ final class EndSentences {
         for (String gone : new String[] {"p", "n", "b", "r", "q"}) {
             occurrence(due, 1, "4k3/7p/8/8/8/8/" + gone + "7/R3K3 w - - 0 1", "a1a2 e8e7 a2a1 e7e8");
         }
+        for (int square = 0; square < 64; square++) {
+            goneFrom(due, square);
+        }
         // One became another.
         occurrence(due, 1, "7k/1P6/8/8/8/8/8/K7 w - - 0 1", "b7b8q h8h7 b8b7 h7h8");
         // The same men, but which of two rooks stands where does not count.
         occurrence(due, 2, "4k3/8/8/8/8/8/8/RR2K3 w - - 0 1", "a1a2 e8e7 b1a1 e7e8 a2b2 e8e7 b2b1 e7e8");
+    }
+
+    /** A queen takes a knight and goes back, black's king goes and comes: only this square differs then. */
+    private static void goneFrom(Due due, int square) {
+        String there = Due.name64(square);
+        String beside = Due.name64((square & 7) < 7 ? square + 1 : square - 1);
+        String text = Texts.withKings("n" + there + " Q" + beside, "w - - 0 1");
+        String home = Due.name64(kingOfBlack(text));
+        for (int king = 0; king < 64; king++) {
+            String away = Due.name64(king);
+            ChessRules x = Due.from(text);
+            if (plays(x, beside + there, home + away, there + beside, away + home)) {
+                due.same("the knight on " + there + " of " + text + " is gone", 1, x.occurrence());
+                return;
+            }
+        }
+        due.wrong("black's king can't go and come in " + text);
+    }
+
+    private static int kingOfBlack(String text) {
+        ChessRules x = Due.from(text);
+        int square = 0;
+        while (x.man(square) != 14) {
+            square++;
+        }
+        return square;
+    }
+
+    /** Plays these moves as far as they are legal: whether all were. */
+    private static boolean plays(ChessRules x, String... moves) {
+        for (String move : moves) {
+            if (Due.answerOf(() -> x.play(Due.move(move))).startsWith("throws")) {
+                return false;
+            }
+        }
+        return true;
     }
 
     private static void sameSide(Due due) {
