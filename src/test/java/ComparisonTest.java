@@ -3,8 +3,12 @@ import java.util.function.LongSupplier;
 
 /** Random runs of calls, right and wrong ones, on ChessRules and on PlainChess. */
 public final class ComparisonTest {
-    private static final int RUNS = 260;
-    private static final int CALLS = 450;
+    private static final int RUNS = 300;
+    /** Beyond so many calls of an object the document promises nothing. */
+    private static final int CALL_LIMIT = 512;
+    private static final int LONG_GAME = 450;
+    /** It leaves room for asking all there is. */
+    private static final int SHORT_GAME = 130;
     private static final String[] TEXTS = {
         "rnbqkbnr/pppppppp/8/8/8/8/PPPPPPPP/RNBQKBNR w KQkq - 0 1",
         "r3k2r/p1ppqpb1/bn2pnp1/3PN3/1p2P3/2N2Q1p/PPPBBPPP/R3K2R w KQkq - 0 1",
@@ -26,6 +30,7 @@ public final class ComparisonTest {
     private final PlainChess plain = new PlainChess();
     private final Due due;
     private final int run;
+    private int calls = 0;
 
     private ComparisonTest(Due due, int run) {
         this.due = due;
@@ -42,14 +47,13 @@ public final class ComparisonTest {
     }
 
     private void go() {
-        int calls = 0;
         if (random.nextInt(6) > 0) {
             load(random.nextInt(3) == 0 ? randomText() : TEXTS[random.nextInt(TEXTS.length)]);
-            calls = 15;
         }
         // Some runs move men to and fro, so that positions come again.
         boolean shuffles = random.nextInt(4) == 0;
-        for (; calls < CALLS; calls++) {
+        int end = random.nextInt(3) == 0 ? SHORT_GAME : LONG_GAME;
+        while (calls < end) {
             if (random.nextInt(3) > 0) {
                 playOne(shuffles);
             } else {
@@ -117,7 +121,19 @@ public final class ComparisonTest {
         same("type(" + w + ", " + n + ")", () -> asNumber(quick.type(told, n)), () -> asNumber(plain.type(told, n)));
     }
 
+    /** All that can be asked, as far as the limit of calls lets it. */
     private void askAll() {
+        same("result()", () -> quick.result(), () -> plain.result());
+        same("claims()", () -> quick.claims(), () -> plain.claims());
+        askWays(2);
+        for (int i = -1; i < 8; i++) {
+            int n = i;
+            same("about(" + n + ")", () -> quick.about(n), () -> plain.about(n));
+        }
+        for (int i = -1; i <= plain.moves(); i++) {
+            int n = i;
+            same("move(" + n + ")", () -> quick.move(n), () -> plain.move(n));
+        }
         same("write()", () -> quick.write(), () -> plain.write());
         for (int i = -1; i < 101; i++) {
             int n = i;
@@ -129,17 +145,6 @@ public final class ComparisonTest {
             askAttackers(n, 0);
             askAttackers(n, 1);
         }
-        for (int i = -1; i <= plain.moves(); i++) {
-            int n = i;
-            same("move(" + n + ")", () -> quick.move(n), () -> plain.move(n));
-        }
-        for (int i = -1; i < 8; i++) {
-            int n = i;
-            same("about(" + n + ")", () -> quick.about(n), () -> plain.about(n));
-        }
-        same("result()", () -> quick.result(), () -> plain.result());
-        same("claims()", () -> quick.claims(), () -> plain.claims());
-        askWays(2);
     }
 
     private void load(String text) {
@@ -183,6 +188,9 @@ public final class ComparisonTest {
     }
 
     private void same(String call, LongSupplier ofQuick, LongSupplier ofPlain) {
-        due.same("run " + run + ": " + call, Due.answerOf(ofPlain), Due.answerOf(ofQuick));
+        if (calls < CALL_LIMIT) {
+            calls++;
+            due.same("run " + run + ": " + call, Due.answerOf(ofPlain), Due.answerOf(ofQuick));
+        }
     }
 }

@@ -1,13 +1,19 @@
+import java.io.IOException;
 import java.lang.reflect.Constructor;
 import java.lang.reflect.Field;
 import java.lang.reflect.Method;
 import java.lang.reflect.Modifier;
+import java.nio.file.Files;
+import java.nio.file.Path;
 import java.util.ArrayList;
 import java.util.Collections;
 import java.util.List;
 
 /** The public face is the document's, whole, and nothing else of the class can be seen. */
 public final class FaceTest {
+    private static final Path DOCUMENT = Path.of("../shared/DOC.md");
+    /** What the document's face has besides methods. */
+    private static final String[] BESIDES = {"final class ChessRules", "static final int NONE = -1", "ChessRules()"};
     private static final String[] FACE = {
         "boolean type(long,int)",
         "boolean cut(int)",
@@ -28,8 +34,9 @@ public final class FaceTest {
         "long ways(int) throws IllegalArgumentException",
     };
 
-    public static void main(String[] args) {
+    public static void main(String[] args) throws IOException {
         Due due = new Due();
+        documentSaysSo(due);
         List<String> want = new ArrayList<>(List.of(FACE));
         List<String> got = new ArrayList<>();
         for (Method method : ChessRules.class.getDeclaredMethods()) {
@@ -45,6 +52,24 @@ public final class FaceTest {
         fieldsAndConstructors(due);
         namesAreOnce(due);
         due.end();
+    }
+
+    /** The face that the class is compared with is the document's, line by line. */
+    private static void documentSaysSo(Due due) throws IOException {
+        if (!Files.isReadable(DOCUMENT)) {
+            System.out.println("the document is not at " + DOCUMENT + ": its face is not compared");
+            return;
+        }
+        List<String> told = new ArrayList<>();
+        for (String line : Files.readString(DOCUMENT).split("## The public face")[1].split("\n## ")[0].split("\n")) {
+            if (line.trim().startsWith("public ")) {
+                String bare = line.trim().substring(7).replaceAll(" ?[;{]$", "");
+                told.add(bare.replaceAll("(int|long) \\w+(?=[,)])", "$1").replace(", ", ","));
+            }
+        }
+        List<String> face = new ArrayList<>(List.of(BESIDES));
+        face.addAll(List.of(FACE));
+        due.same("the document's face", told.toString(), face.toString());
     }
 
     private static void fieldsAndConstructors(Due due) {

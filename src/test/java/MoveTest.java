@@ -176,22 +176,21 @@ public final class MoveTest {
     }
 
     private static void promise12Wrong() {
-        ChessRules x = new ChessRules();
         Class<IllegalArgumentException> wrong = IllegalArgumentException.class;
         for (String name : new String[] {"e2e5", "e7e5", "e3e4", "d1d2", "e1g1", "a1a2", "e2e2", "e2e4q", "g1e2"}) {
-            refused(x, Due.move(name), wrong);
+            refused(new ChessRules(), Due.move(name), wrong);
         }
         int e4 = Due.move("e2e4");
         for (int move : new int[] {-1, 0, Integer.MIN_VALUE, Integer.MAX_VALUE, e4 + 4096, e4 + 6 * 4096, e4 + 8 * 4096,
             e4 + (1 << 24), e4 - (1 << 31), -e4, e4 - 65536}) {
-            refused(x, move, wrong);
+            refused(new ChessRules(), move, wrong);
         }
-        ChessRules p = Due.from("7k/P7/8/8/8/8/8/K7 w - - 0 1");
         int a8 = Due.move("a7a8");
         for (int m : new int[] {0, 1, 6, 7, 8, 10, 13, -1}) {
+            ChessRules p = Due.from("7k/P7/8/8/8/8/8/K7 w - - 0 1");
             refused(p, a8 + 4096 * m, wrong);
+            DUE.same("it plays still", 1, p.play(a8 + 4096 * 5));
         }
-        DUE.same("it plays still", 1, p.play(a8 + 4096 * 5));
     }
 
     private static void promise12Over() {
@@ -262,18 +261,39 @@ public final class MoveTest {
             "4k3/pppppppp/8/PPPPPPPP/pppppppp/8/PPPPPPPP/4K3 w - - 0 1",
         };
         for (int run = 0; run < 60; run++) {
-            Random random = new Random(run);
-            ChessRules x = Due.from(starts[run % starts.length]);
-            List<String> texts = new ArrayList<>();
-            for (int i = 0; i < 120 && x.result() == 0; i++) {
-                texts.add(Due.written(x) + " " + x.occurrence() + " " + x.moves());
-                x.play(x.move(random.nextInt(x.moves())));
-            }
-            for (int i = texts.size() - 1; i >= 0; i--) {
-                DUE.same("back in run " + run, i, x.back());
-                DUE.same("as it was", texts.get(i), Due.written(x) + " " + x.occurrence() + " " + x.moves());
+            String start = starts[run % starts.length];
+            List<Integer> moves = randomMoves(start, new Random(run));
+            for (int left = 0; left < moves.size(); left++) {
+                ChessRules x = behind(start, moves);
+                for (int n = moves.size() - 1; n >= left; n--) {
+                    DUE.same("back in run " + run, n, x.back());
+                }
+                DUE.same("as it was in run " + run, stand(behind(start, moves.subList(0, left))), stand(x));
             }
         }
+    }
+
+    private static List<Integer> randomMoves(String start, Random random) {
+        ChessRules x = Due.from(start);
+        List<Integer> moves = new ArrayList<>();
+        while (moves.size() < 100 && x.result() == 0) {
+            int move = x.move(random.nextInt(x.moves()));
+            moves.add(move);
+            x.play(move);
+        }
+        return moves;
+    }
+
+    private static ChessRules behind(String start, List<Integer> moves) {
+        ChessRules x = Due.from(start);
+        for (int move : moves) {
+            x.play(move);
+        }
+        return x;
+    }
+
+    private static String stand(ChessRules x) {
+        return Due.written(x) + " " + x.occurrence() + " " + x.moves();
     }
 
     private static void promise14() {

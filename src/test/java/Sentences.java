@@ -58,12 +58,11 @@ final class Sentences {
         count++;
     }
 
-    /** All words under these headings, and under Terms, were quoted by tests. */
-    void wholeOf(String... promises) {
+    /** All words under these headings were quoted by tests. */
+    void wholeOf(String... headings) {
         due.under("");
-        noWordLeft(TERMS);
-        for (String promise : promises) {
-            noWordLeft(promise);
+        for (String heading : headings) {
+            noWordLeft(heading);
         }
     }
 

@@ -31,32 +31,27 @@ public final class TextTest {
         DUE.thrown("played(0) at first", IndexOutOfBoundsException.class, () -> x.played(0));
     }
 
-    /** Asks for the text's length without changing it: only a cut at its end or before it is done. */
-    private static int length(ChessRules x) {
-        int n = 200;
-        while (!x.cut(n)) {
-            n--;
-        }
-        return n;
-    }
-
     private static void promise2() {
         ChessRules x = new ChessRules();
         for (int n : new int[] {0, -1, 9, 16, Integer.MIN_VALUE, Integer.MAX_VALUE}) {
             DUE.same("type(.., " + n + ")", false, x.type(Due.packed("abcdefgh"), n));
         }
         for (int c = 0; c < 256; c++) {
-            boolean fits = c >= 32 && c <= 126;
-            DUE.same("type of character " + c, fits, x.type(c, 1));
-            DUE.same("type of character " + c + " last", fits, x.type((long) c << 56 | Due.packed("abcdefg"), 8));
-            DUE.same("the text behind character " + c, fits ? 9 : 0, length(x));
-            x.cut(0);
+            promise2Character(c);
         }
         DUE.same("bytes above n don't count", true, x.type(0xFF00000000004141L, 2));
-        DUE.same("two characters", 2, length(x));
+        DUE.textHas(2, x);
         x.cut(0);
         DUE.same("lowest byte first", 0, Due.load(x, "k7/8/8/8/8/8/8/7K b - - 3 4"));
         DUE.same("lowest byte first, read", "k7/8/8/8/8/8/8/7K b - - 3 4", Due.written(x));
+    }
+
+    private static void promise2Character(int c) {
+        ChessRules x = new ChessRules();
+        boolean fits = c >= 32 && c <= 126;
+        DUE.same("type of character " + c, fits, x.type(c, 1));
+        DUE.same("type of character " + c + " last", fits, x.type((long) c << 56 | Due.packed("abcdefg"), 8));
+        DUE.textHas(fits ? 9 : 0, x);
     }
 
     private static void promise2Limit() {
@@ -65,12 +60,12 @@ public final class TextTest {
             DUE.same("up to 96", true, x.type(Due.packed("12345678"), 8));
         }
         DUE.same("101 characters", false, x.type(Due.packed("12345"), 5));
-        DUE.same("still 96", 96, length(x));
+        DUE.textHas(96, x);
         DUE.same("100 characters", true, x.type(Due.packed("1234"), 4));
         DUE.same("one more than 100", false, x.type('1', 1));
-        DUE.same("still 100", 100, length(x));
+        DUE.textHas(100, x);
         DUE.same("load() of 100 characters", 1, x.load());
-        DUE.same("still 100 behind load", 100, length(x));
+        DUE.textHas(100, x);
         x.cut(99);
         DUE.same("two more than 99", false, x.type(Due.packed("12"), 2));
         DUE.same("one more than 99", true, x.type('1', 1));
@@ -198,7 +193,7 @@ public final class TextTest {
         String before = Due.written(x);
         String bad = "4k3/8/8/8/8/8/8/4R1K1 w - - 0 1";
         DUE.same("load() with a fault", 4, Due.load(x, bad));
-        DUE.same("the text behind a fault", bad.length(), length(x));
+        DUE.textHas(bad.length(), x);
         Due.type(x, bad);
         DUE.same("the position behind a fault", before, Due.written(x));
         DUE.same("the game behind a fault", Due.move("g1f3"), x.played(2));

@@ -1,7 +1,6 @@
-/** The sentences of promise 18, ways, and of the limit of calls that the document begins with. */
+/** The sentences of promise 18, ways. */
 final class WaysSentences {
     private static final String WAYS = "Promise 18: ways";
-    private static final String BEGINNING = "What it is";
 
     private WaysSentences() {
     }
@@ -12,7 +11,6 @@ final class WaysSentences {
         s.holds(WAYS, "by legal moves alone", WaysSentences::legalAlone);
         s.holds(WAYS, "(whatever result() tells).", WaysSentences::whateverResultTells);
         s.holds(WAYS, "IllegalArgumentException when depth is not 0 .. 3.", WaysSentences::wrongDepths);
-        s.holds(BEGINNING, "An object is used for at most 512 calls after it has been made", WaysSentences::allCalls);
     }
 
     private static void ways(Due due, String text, long... want) {
@@ -119,28 +117,5 @@ final class WaysSentences {
         ChessRules mated = Due.from(Texts.MATED);
         due.illegal("ways(4) of a mated side", () -> mated.ways(4));
         due.illegal("ways(-1) of a mated side", () -> mated.ways(-1));
-    }
-
-    /** A text, a full game and all that is left of 512 calls: the last ones are answered as the first ones. */
-    private static void allCalls(Due due) {
-        ChessRules x = new ChessRules();
-        int calls = 0;
-        for (int start = 0; start < Games.ROOKS.length(); start += 8) {
-            String part = Games.ROOKS.substring(start, Math.min(start + 8, Games.ROOKS.length()));
-            due.same("type", true, x.type(Due.packed(part), part.length()));
-            calls++;
-        }
-        due.same("load()", 0, x.load());
-        calls++;
-        for (String move : Games.rooks(Games.LIMIT, 100, 249, 330)) {
-            x.play(Due.move(move));
-            calls++;
-        }
-        while (calls < 510) {
-            due.same("occurrence() as call " + (calls + 1), 1, x.occurrence());
-            calls++;
-        }
-        due.same("about(3) as call 511", 69, x.about(3));
-        due.same("back() as call 512", 399, x.back());
     }
 }
